@@ -1066,7 +1066,7 @@ public final class PromisesTest {
     due("count(1)", x.count(1), 22);
     due("count(7)", x.count(7), 2);
     x.stroke();
-    // 4, 15, 3: two more from the aunt
+    // 5, 9, 8: two more from the aunt
     due("count(1)", x.count(1), 24);
     due("count(2)", x.count(2), 1);
     due("count(3)", x.count(3), 2);
