@@ -47,6 +47,7 @@ public final class PromisesTest {
     restore();
     count();
     allIsInMind();
+    giftsAheadDoNotCount();
     System.out.println(wrong == 0 ? "all promises hold" : wrong + " answers are not as due");
     if (wrong != 0) {
       System.exit(1);
@@ -945,8 +946,13 @@ public final class PromisesTest {
     // of 5 children 0 and 3: SWEETS 2 0 0 4 0 of ch cn cn cn ch, so 1 1 0 4 0
     x = told("ch4;cn0;cn0;cn2;ch0;");
     due("seeds(1, 0)", x.seeds(1, 0), 2);
-    // KINDS go along no more than that
     due("given(1, 0)", x.given(1, 0), 0);
+    // z of 1: 16838, 5758 (of 3 children 2 and 1: 2 2 1, so 2 4 2), 10113, 17515 (0 and 1: 4 2 2)
+    x = told("ch2;cn1;cn2;");
+    due("seeds(1, 1)", x.seeds(1, 1), 3);
+    due("seeds(2, 1)", x.seeds(2, 1), 3);
+    due("given(1, 0)", x.given(1, 0), 1);
+    due("given(2, 0)", x.given(2, 0), 3);
   }
 
   private static void row() {
@@ -1139,5 +1145,26 @@ public final class PromisesTest {
     due("set(0, 0)", x.set(0, 0), 0);
     due("set(1, 1)", x.set(1, 1), 1);
     due("set(2, 0)", x.set(2, 0), 60);
+  }
+
+  private static void giftsAheadDoNotCount() {
+    promise = "promises 11, 21, 25, 26, 28";
+    HalfToTheLeft x = told("cn1;cn1;");
+    due("stroke()", x.stroke(), 2);
+    x.put(0, 1);
+    x.image();
+    due("given(5, 0)", x.given(5, 0), 1);
+    due("seats(5, 0)", x.seats(5, 0), 1);
+    due("seats(5, 1)", x.seats(5, 1), 1);
+    due("joined(5)", x.joined(5), 2);
+    due("newly(1, 0)", x.newly(1, 0), 0);
+    due("seeds(5, 5)", x.seeds(5, 5), 1);
+    due("stroke()", x.stroke(), 1);
+    due("count(3)", x.count(3), 3);
+    x.set(0, 1);
+    x.put(1, 3);
+    due("stroke()", x.stroke(), 0);
+    due("given(5, 1)", x.given(5, 1), 0);
+    due("count(4)", x.count(4), 1);
   }
 }

@@ -142,7 +142,8 @@ public final class RulesTest {
         start = i;
       }
       if (lines[i].matches(" {2}( {2})?\\}")) {
-        must(i - start < 60 || lines[i].equals("  }"), "rule 11: the method at line " + (start + 1));
+        boolean isShort = i - start < 60 || lines[i].equals("  }");
+        must(isShort, "rule 11: the method at line " + (start + 1));
       }
       must(lines[i].length() <= 100, "line " + (i + 1) + " is long");
     }
