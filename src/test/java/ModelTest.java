@@ -13,7 +13,7 @@ import java.util.regex.Pattern;
  */
 public final class ModelTest {
 
-  private static final int RUNS = 120;
+  private static final int RUNS = 200;
   private static final int CALLS = 512;
 
   /** Tables found by long search, where answers stand at the greatest n, or just behind it. */

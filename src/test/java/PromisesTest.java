@@ -684,6 +684,12 @@ public final class PromisesTest {
     due("beforeOf(0, 1, -1)", x.beforeOf(0, 1, -1), -4);
     due("beforeOf(6, 1, 0)", x.beforeOf(6, 1, 0), -1);
     due("beforeOf(0, 1, 0) of nobody", new HalfToTheLeft().beforeOf(0, 1, 0), -1);
+    // 0 0, 0 1, 1 0, 1 1
+    x = told("l11;cn0;cn0;");
+    for (int i = 0; i < 4; i++) {
+      due("beforeOf(0, 9, " + i + ")", x.beforeOf(0, 9, i), i / 2);
+      due("beforeOf(1, 9, " + i + ")", x.beforeOf(1, 9, i), i % 2);
+    }
     // the last child's change first: 1 1, 1 2, 2 1, 2 2
     x = told("cn2;cn2;");
     due("beforeOf(0, 9, 1)", x.beforeOf(0, 9, 1), 1);
