@@ -13,8 +13,11 @@ import java.util.regex.Pattern;
  */
 public final class ModelTest {
 
-  private static final int RUNS = 200;
+  private static final int RUNS = 400;
+
+  /** An object answers 512 calls, and a step takes fewer than this many. */
   private static final int CALLS = 512;
+  private static final int MOST_OF_A_STEP = 40;
 
   /** Tables found by long search, where answers stand at the greatest n, or just behind it. */
   private static final String[] EDGES = {
@@ -47,10 +50,10 @@ public final class ModelTest {
     for (int run = 0; run < RUNS && wrong < 5; run++) {
       Driver driver = new Driver(run);
       boolean fine = true;
-      for (int i = 0; i < CALLS && fine; i++) {
+      while (fine && driver.trail.size() <= CALLS - MOST_OF_A_STEP) {
         fine = driver.goOn();
-        calls++;
       }
+      calls += driver.trail.size();
       if (!fine) {
         wrong++;
         System.out.println("run " + run + ":");
