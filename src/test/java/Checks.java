@@ -31,15 +31,17 @@ final class Checks {
   static final long LONG_BASE = 4000000000000000000L;
 
   private static final int PROMISES = 33;
+  private static final long LONGEST_MILLISECONDS = 120000;
 
   private static int wrong = 0;
-  private static String test = "";
+  private static volatile String test = "";
 
   private Checks() {
   }
 
   /** Runs each method that says what it is for; args[1] is the document. */
   static void run(Class<?> tests, String[] args) throws Exception {
+    endIfNeverDone();
     String[] sections = sections(Files.readString(Path.of(args[1])));
     Method[] methods = tests.getDeclaredMethods();
     Arrays.sort(methods, Comparator.comparing(Method::getName));
@@ -63,6 +65,21 @@ final class Checks {
           .anyMatch(says -> says != null && says.promise() == which);
       due("tests of promise " + promise, there ? 1 : 0, 1);
     }
+  }
+
+  /** A call that does not end is a fault like others. */
+  private static void endIfNeverDone() {
+    Thread watch = new Thread(() -> {
+      try {
+        Thread.sleep(LONGEST_MILLISECONDS);
+      } catch (InterruptedException woken) {
+        return;
+      }
+      System.out.println(test + ": a call does not end");
+      Runtime.getRuntime().halt(1);
+    });
+    watch.setDaemon(true);
+    watch.start();
   }
 
   private static void end(String what) {
@@ -197,7 +214,7 @@ final class Checks {
     return all;
   }
 
-  /** A call that answers so, adds one to a count of REFUSALS (0: to none), and does nothing else. */
+  /** A call that adds one to a count of REFUSALS (0: to none), and does nothing else. */
   private static void doesNothing(Supplier<HalfToTheLeft> made, String name,
       ToLongFunction<HalfToTheLeft> call, int refusal) {
     HalfToTheLeft x = made.get();

@@ -149,8 +149,8 @@ public final class MindBoundariesTest {
     Checks.due("alike() behind 199", x.alike(), 199);
   }
 
-  @Checks.Says("RING: the least n (0 .. 100) so that SWEETS and BAG behind n come again behind n and "
-      + "some m (1 .. 100): n; m; -9.")
+  @Checks.Says("RING: the least n (0 .. 100) so that SWEETS and BAG behind n come again behind n "
+      + "and some m (1 .. 100): n; m; -9.")
   static void ringsGoTo100And100() {
     HalfToTheLeft x = Checks.told(ROUND_OF_100);
     must(isSame(x, 100, 200) && !isSame(x, 99, 199), "what is behind 100 comes again behind 200");
@@ -204,6 +204,13 @@ public final class MindBoundariesTest {
     Checks.strikes(x, 3);
     Checks.due("ring(0) in it", x.ring(0), 0);
     Checks.due("ring(1) in it", x.ring(1), 2);
+    // behind 101 strokes this is in a round of 3, which does not go into 100
+    x = Checks.told("l01;g188;cb253;cr824;cd638;ch523;");
+    Checks.due("ring(0) behind 101", x.ring(0), -9);
+    x.stroke();
+    must(isSame(x, 100, 103) && !isSame(x, 100, 101) && !isSame(x, 99, 102), "a round of 3");
+    Checks.due("ring(0) of 3", x.ring(0), 100);
+    Checks.due("ring(1) of 3", x.ring(1), 3);
   }
 
   @Checks.Says("MEET: the least n (0 .. 200) behind which two told ones have alike; -9.")

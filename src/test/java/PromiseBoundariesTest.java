@@ -1,6 +1,6 @@
 import java.util.function.Supplier;
 
-/** The boundary cases that the promises name each under its own heading: refused calls above all. */
+/** The boundary cases that each promise names under its own heading: refused calls above all. */
 public final class PromiseBoundariesTest {
 
   private static final int LEAST = Checks.LEAST;
@@ -27,7 +27,7 @@ public final class PromiseBoundariesTest {
     Checks.due("table() of none", none().table(), 2);
   }
 
-  /** Four children of a table that has been elsewhere, its image, letters and a ROW that is right. */
+  /** Four children of a table that was another one, its image, letters, and a right ROW. */
   private static HalfToTheLeft some() {
     HalfToTheLeft x = Checks.told("l12;g77;ch7;cb12;cr3;cs20;");
     x.stroke();
@@ -145,7 +145,8 @@ public final class PromiseBoundariesTest {
     Checks.due("a TABLE", Checks.tell(x, "g1;"), 1);
   }
 
-  @Checks.Says(promise = 3, value = "are a TABLE: how many STATEMENTS; the FAULT (nothing is counted).")
+  @Checks.Says(promise = 3, value = "are a TABLE: how many STATEMENTS; the FAULT (nothing is "
+      + "counted).")
   static void aFaultIsNoRefusal() {
     HalfToTheLeft x = Checks.nobody();
     Checks.due("one", Checks.tell(x, "g1;"), 1);
@@ -225,7 +226,9 @@ public final class PromiseBoundariesTest {
     Checks.due("kind(0, 6)", x.kind(0, 6), 0);
     Checks.due("kind(0, 0)", x.kind(0, 0), 6);
     Checks.due("kind(7, 6)", x.kind(7, 6), 0);
-    Checks.areOfKinds(x, 0, 1, 2, 3, 4, 5, 6, 6);
+    Checks.due("kind(7, 5)", x.kind(7, 5), 6);
+    Checks.due("kind(6, 6)", x.kind(6, 6), 6);
+    Checks.areOfKinds(x, 0, 1, 2, 3, 4, 5, 6, 5);
     Checks.have(x, 3, 4, 5, 6, 7, 8, 9, 10);
   }
 
@@ -438,7 +441,8 @@ public final class PromiseBoundariesTest {
     Checks.due("near(1)", Checks.told("l03;ch1;ch0;ch9;").near(1), -9);
   }
 
-  @Checks.Says(promise = 19, value = "BEFORE: how many. -4; -6 (9; more than 5 children); -3 nobody.")
+  @Checks.Says(promise = 19, value = "BEFORE: how many. -4; -6 (9; more than 5 children); -3 "
+      + "nobody.")
   static void tablesBeforeAreRefused() {
     for (int k : new int[] {-1, LEAST}) {
       Checks.refused(-4, PromiseBoundariesTest::some, "before", x -> x.before(k));
@@ -493,7 +497,8 @@ public final class PromiseBoundariesTest {
     Checks.due("beforeOf(0, 6, 0)", x.beforeOf(0, 6, 0), -9);
   }
 
-  @Checks.Says(promise = 21, value = "that number. -2; -4; -6 (50; more than 6 children); -3 nobody.")
+  @Checks.Says(promise = 21, value = "that number. -2; -4; -6 (50; more than 6 children); -3 "
+      + "nobody.")
   static void seatsAreRefused() {
     for (int what : new int[] {-1, 3, LEAST, GREATEST}) {
       for (int n : new int[] {5, -1, 51}) {
@@ -617,14 +622,16 @@ public final class PromiseBoundariesTest {
     }
   }
 
-  @Checks.Says(promise = 26, value = "Refused as told: -4 either; -6 (999; 50; 8 children are there).")
+  @Checks.Says(promise = 26, value = "Refused as told: -4 either; -6 (999; 50; 8 children are "
+      + "there).")
   static void aNewOneIsRefusedFarAbove() {
     Checks.due("newly(-1, 0)", some().newly(-1, 0), 1000000004);
     for (int low : new int[] {-1, LEAST}) {
       Checks.refusedFar(INT_BASE, -4, PromiseBoundariesTest::some, "newly", x -> x.newly(low, 0));
       Checks.refusedFar(INT_BASE, -4, PromiseBoundariesTest::some, "newly", x -> x.newly(0, low));
       Checks.refusedFar(INT_BASE, -4, PromiseBoundariesTest::some, "newly", x -> x.newly(low, 51));
-      Checks.refusedFar(INT_BASE, -4, PromiseBoundariesTest::some, "newly", x -> x.newly(1000, low));
+      Checks.refusedFar(INT_BASE, -4, PromiseBoundariesTest::some, "newly",
+          x -> x.newly(1000, low));
       Checks.refusedFar(INT_BASE, -4, PromiseBoundariesTest::full, "newly", x -> x.newly(low, 0));
       Checks.refusedFar(INT_BASE, -4, PromiseBoundariesTest::full, "newly", x -> x.newly(0, low));
       Checks.refusedFar(INT_BASE, -4, PromiseBoundariesTest::none, "newly", x -> x.newly(low, 0));
@@ -819,8 +826,8 @@ public final class PromiseBoundariesTest {
     }
   }
 
-  @Checks.Says(promise = 33, value = "0 children, 1 all SWEETS, 2 STROKES, 3 GAVE, 4 THREW, 5 letters, "
-      + "6 in the ROW, 7 odd heaps")
+  @Checks.Says(promise = 33, value = "0 children, 1 all SWEETS, 2 STROKES, 3 GAVE, 4 THREW, 5 "
+      + "letters, 6 in the ROW, 7 odd heaps")
   static void countsAreOfNoneOrAll() {
     HalfToTheLeft x = full();
     for (int child = 0; child < 8; child++) {
@@ -876,8 +883,8 @@ public final class PromiseBoundariesTest {
     }
   }
 
-  @Checks.Says("the first that fits in the order in which it tells them; nothing changes but how many "
-      + "there were")
+  @Checks.Says("the first that fits in the order in which it tells them; nothing changes but how "
+      + "many there were")
   static void ofManyRefusalsOneIsCounted() {
     Checks.refused(-1, PromiseBoundariesTest::some, "child", x -> x.child(4, 4));
     Checks.refused(-1, PromiseBoundariesTest::some, "put", x -> x.put(4, -1));
@@ -891,6 +898,31 @@ public final class PromiseBoundariesTest {
     Checks.refusedFar(INT_BASE, -1, PromiseBoundariesTest::none, "hides",
         x -> x.hides(0, 51, true));
     Checks.refusedFar(INT_BASE, -4, PromiseBoundariesTest::full, "newly", x -> x.newly(1000, -1));
+  }
+
+  @Checks.Says("CHILDREN 0 .. 7 as they come")
+  static void allIsAskedOfEight() {
+    Supplier<HalfToTheLeft> eight = some(8);
+    Checks.isInMind(eight, "child", x -> x.child(7, 2));
+    Checks.isInMind(eight, "run", x -> x.run(7, 200));
+    Checks.isInMind(eight, "given", x -> x.given(200, 0));
+    Checks.isInMind(eight, "rests", HalfToTheLeft::rests);
+    Checks.isInMind(eight, "alike", HalfToTheLeft::alike);
+    Checks.isInMind(eight, "ring", x -> x.ring(0));
+    Checks.isInMind(eight, "meet", x -> x.meet(7, 0));
+    Checks.isInMind(eight, "crumbs", x -> x.crumbs(7, 20, 0));
+    Checks.isInMind(eight, "mean", x -> x.mean(0));
+    Checks.isInMind(eight, "near", x -> x.near(99));
+    Checks.isInMind(eight, "hides", x -> x.hides(7, 50, true));
+    Checks.isInMind(eight, "felt", x -> x.felt(7, 0));
+    Checks.isInMind(eight, "begun", x -> x.begun(50));
+    Checks.isInMind(eight, "seeds", x -> x.seeds(50, 1));
+    HalfToTheLeft x = eight.get();
+    x.stroke();
+    Checks.due("count(2)", x.count(2), 1);
+    Checks.due("change(7, 0)", x.change(7, 0), 1);
+    Checks.due("image()", x.image(), 8);
+    Checks.due("restore()", x.restore(), 8);
   }
 
   @Checks.Says("Of hides(), newly() 1000000000 less them (-1 as 1000000001); of longs "

@@ -123,8 +123,8 @@ public final class RulesTest {
   }
 
   private static void library(String text) {
-    String library = "System|Arrays|List|Math|Integer|Long|Short|Byte|Character|Boolean|Double|Float"
-        + "|String|Collections|Objects|Runtime|Class";
+    String library = "System|Arrays|List|Math|Integer|Long|Short|Byte|Character|Boolean|Double"
+        + "|Float|String|Collections|Objects|Runtime|Class";
     String may = "System\\.arraycopy|Arrays\\.(copyOf|copyOfRange|fill)|List\\.of"
         + "|(Math|Integer|Long)\\.[a-z]\\w*(?<!Exact)";
     Matcher call = Pattern.compile("\\b(" + library + ")\\.\\w+").matcher(text);

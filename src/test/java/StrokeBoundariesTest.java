@@ -58,7 +58,8 @@ public final class StrokeBoundariesTest {
     Checks.stroked("l23;ch8;cn0;", 0, 4, 4);
   }
 
-  @Checks.Says("BOTH a quarter of them, cut, to the left (by STEP) and as much to the right (by STEP)")
+  @Checks.Says("BOTH a quarter of them, cut, to the left (by STEP) and as much to the right (by "
+      + "STEP)")
   static void stepsToTheRightGoRoundAheadOfTheFirst() {
     Checks.stroked("l21;cb8;cn0;cn0;", 0, 4, 2, 2);
     Checks.stroked("l21;cn0;cn0;cb8;", 0, 2, 2, 4);
@@ -148,7 +149,8 @@ public final class StrokeBoundariesTest {
     Checks.areSet(x, 0, 1, 998);
   }
 
-  @Checks.Says("STROKES (0 at first), GAVE (all that the aunt gave; 0), THREW (all that was thrown; 0)")
+  @Checks.Says("STROKES (0 at first), GAVE (all that the aunt gave; 0), THREW (all that was "
+      + "thrown; 0)")
   static void countsAreNothingAtFirst() {
     HalfToTheLeft x = Checks.told("cn1;cn2;");
     for (int what = 2; what <= 4; what++) {
@@ -311,6 +313,10 @@ public final class StrokeBoundariesTest {
     givesThere("cp9;cn7;cn0;", 0, 1, 1);
     givesNothing("cs3;cn0;cn0;", 0);
     givesThere("cs4;cn0;cn0;", 0, 1, 1);
+    // whatever the others are
+    givesThere("cn9;cb9;ch9;cb3;", 1, 2, 2);
+    givesThere("cb9;cn9;ch9;cb3;", 2, 4, 1);
+    givesNothing("cb9;cn9;ch9;cb3;", 3);
   }
 
   @Checks.Says("a BOTH whose left and right are one gives it two quarters")

@@ -53,7 +53,8 @@ public final class TableBoundariesTest {
     Checks.due("feed('x')", x.feed('x'), 1);
   }
 
-  @Checks.Says("\"c\" a letter of a KIND (h HALF, b BOTH, r RICH, d HIDER, n NEVER, p PROUD, s SLY)")
+  @Checks.Says("\"c\" a letter of a KIND (h HALF, b BOTH, r RICH, d HIDER, n NEVER, p PROUD, s "
+      + "SLY)")
   static void sevenLettersAreKinds() {
     mayGoOn("c", "hbrdnps");
     mayGoOn("ch1;c", "hbrdnps");
@@ -153,8 +154,8 @@ public final class TableBoundariesTest {
     fault(ahead + "ch12", -1064);
   }
 
-  @Checks.Says("kind 2 the place of the first letter of the first STATEMENT that, behind all ahead of "
-      + "it in the text, is not as it must be")
+  @Checks.Says("kind 2 the place of the first letter of the first STATEMENT that, behind all "
+      + "ahead of it in the text, is not as it must be")
   static void theFirstWrongStatementIsTold() {
     fault("l31;", -2000);
     fault("l10;l31;l11;l44;", -2000);

@@ -1,3 +1,7 @@
+import java.util.ArrayList;
+import java.util.Arrays;
+import java.util.List;
+
 /** The boundary cases of the Terms' part II from BEFORE to JUDGED, and of their Details. */
 public final class WhatIfBoundariesTest {
 
@@ -56,6 +60,14 @@ public final class WhatIfBoundariesTest {
     Checks.due("beforeOf(0, 5, 4)", x.beforeOf(0, 5, 4), -9);
     Checks.due("beforeOf(0, 4, 0)", x.beforeOf(0, 4, 0), -9);
     Checks.due("beforeOf(0, 9, greatest)", x.beforeOf(0, 9, Checks.GREATEST), -9);
+    // that of zeros is the first: 0 0, 0 1, 1 0, 1 1
+    x = Checks.told("l11;cn0;cn0;");
+    for (int i = 0; i < 4; i++) {
+      Checks.due("beforeOf(0, 9, " + i + ")", x.beforeOf(0, 9, i), i / 2);
+      Checks.due("beforeOf(1, 9, " + i + ")", x.beforeOf(1, 9, i), i % 2);
+    }
+    Checks.due("beforeOf(1, 0, 0)", x.beforeOf(1, 0, 0), 0);
+    Checks.due("beforeOf(1, 0, 1)", x.beforeOf(1, 0, 1), -9);
   }
 
   @Checks.Says("BEFORE goes by SETTINGS as they are now, BAG as now ahead of the stroke.")
@@ -122,8 +134,8 @@ public final class WhatIfBoundariesTest {
     }
   }
 
-  @Checks.Says("that by which the aunt gives least in n strokes (0 .. 50), or most, or by which child "
-      + "0 has most behind n")
+  @Checks.Says("that by which the aunt gives least in n strokes (0 .. 50), or most, or by which "
+      + "child 0 has most behind n")
   static void seatsGoFrom0To50Strokes() {
     // 2 1 2: 1 2 2; 2 2 1: 1 3 1
     HalfToTheLeft x = Checks.told("ch2;cn1;cn2;");
@@ -148,8 +160,62 @@ public final class WhatIfBoundariesTest {
     Checks.due("seats(50, 2)", x.seats(50, 2), 100);
   }
 
-  @Checks.Says("how many SWEETS more all others together have behind n strokes (0 .. 50); may be below "
-      + "0.")
+  /** All ways, in their order, in which the children told so may sit. */
+  private static void addWays(String[] told, List<Integer> way, List<List<Integer>> ways) {
+    if (way.size() == told.length) {
+      ways.add(way);
+    }
+    for (int child = 0; child < told.length; child++) {
+      if (!way.contains(child)) {
+        List<Integer> longer = new ArrayList<>(way);
+        longer.add(child);
+        addWays(told, longer, ways);
+      }
+    }
+  }
+
+  /** SEATS by hand: each way is told as a table of its own. */
+  private static void seatsAreAsByHand(String settings, String[] told, int n, int what) {
+    List<List<Integer>> ways = new ArrayList<>();
+    addWays(told, List.of(0), ways);
+    List<Integer> bestWay = null;
+    long best = 0;
+    for (List<Integer> way : ways) {
+      StringBuilder letters = new StringBuilder(settings);
+      way.forEach(child -> letters.append(told[child]));
+      HalfToTheLeft x = Checks.told(letters.toString());
+      long number = what == 2 ? x.run(0, n) : x.given(n, 0);
+      if (bestWay == null || (what == 0 ? number < best : number > best)) {
+        best = number;
+        bestWay = way;
+      }
+    }
+    HalfToTheLeft x = Checks.told(settings + String.join("", told));
+    String call = "(" + n + ", " + what + ") of " + settings + String.join("", told);
+    Checks.due("seats" + call, x.seats(n, what), best);
+    for (int i = 0; i < told.length; i++) {
+      Checks.due("seat " + i + call, x.seat(n, what, i), bestWay.get(i));
+    }
+    Checks.due("seat behind all" + call, x.seat(n, what, told.length), -9);
+  }
+
+  @Checks.Says("of all ways in which children (6 at most; child 0 stays) sit, each with KIND and "
+      + "SWEETS")
+  static void oneToSixChildrenSitInAllWays() {
+    String[] six = {"ch31;", "cb12;", "cr53;", "cd24;", "cp75;", "cs16;"};
+    String[] others = {"cn3;", "ch50;", "ch9;", "cb41;", "cr17;", "cd66;"};
+    for (int children = 1; children <= 6; children++) {
+      for (int what = 0; what <= 2; what++) {
+        for (int n : new int[] {1, 3, 50}) {
+          seatsAreAsByHand("l01;", Arrays.copyOf(six, children), n, what);
+          seatsAreAsByHand("l02;g9;", Arrays.copyOf(others, children), n, what);
+        }
+      }
+    }
+  }
+
+  @Checks.Says("how many SWEETS more all others together have behind n strokes (0 .. 50); may be "
+      + "below 0.")
   static void hidingMayBeBelow0() {
     // child 1 has two more at each stroke, and nothing of a NEVER or a HIDER of 2
     HalfToTheLeft x = Checks.told("ch2;cn0;");
@@ -179,8 +245,8 @@ public final class WhatIfBoundariesTest {
     Checks.areOfKinds(x, 3, 4, 6);
   }
 
-  @Checks.Says("FELT: the least n (0 .. 50) behind which one has not as many as it would if another "
-      + "one had one more now; -9.")
+  @Checks.Says("FELT: the least n (0 .. 50) behind which one has not as many as it would if "
+      + "another one had one more now; -9.")
   static void feltGoesFrom0To50() {
     // the aunt gives children 1 and 2 one each at each stroke, to child 0 of 3 one at the first:
     // child 1 has 1 where she has none for it
@@ -275,8 +341,8 @@ public final class WhatIfBoundariesTest {
     Checks.due("joined(50) of one", x.joined(50), 50);
   }
 
-  @Checks.Says("NEWLY: one of KIND 0 with so many SWEETS comes in the last place: what the aunt gives "
-      + "more in n strokes (may be below 0).")
+  @Checks.Says("NEWLY: one of KIND 0 with so many SWEETS comes in the last place: what the aunt "
+      + "gives more in n strokes (may be below 0).")
   static void aNewOneMayCostLess() {
     // alone 1 and 2: one; with 2: 1 + 1, 2, 1; with 3, that gives 1: 2, 2, 2
     HalfToTheLeft x = Checks.told("cn1;cn2;");
@@ -319,8 +385,8 @@ public final class WhatIfBoundariesTest {
     Checks.due("newly(7, 50) of THROWN", x.newly(7, 50), 0);
   }
 
-  @Checks.Says("BEGUN: the least k (0 .. 99) so that if all had k but child 0, who has as now, they "
-      + "have alike behind n strokes or sooner; -9.")
+  @Checks.Says("BEGUN: the least k (0 .. 99) so that if all had k but child 0, who has as now, "
+      + "they have alike behind n strokes or sooner; -9.")
   static void begunGoesFrom0To99() {
     Checks.due("begun(0) of 0", Checks.told("cn0;cn7;").begun(0), 0);
     Checks.due("begun(0) of 99", Checks.told("cn99;cn7;").begun(0), 99);
@@ -435,8 +501,9 @@ public final class WhatIfBoundariesTest {
     return x.judge();
   }
 
-  @Checks.Says("A ROW of numbers (0 .. 999; 24 at most): JUDGED: what all have behind one stroke, then "
-      + "behind the next one, .. (by numbers): the place of the first that is not so; -9.")
+  @Checks.Says("A ROW of numbers (0 .. 999; 24 at most): JUDGED: what all have behind one "
+      + "stroke, then behind the next one, .. (by numbers): the place of the first that is not "
+      + "so; -9.")
   static void rowsGoOverManyStrokes() {
     HalfToTheLeft x = Checks.told("l21;cr9;cr2;");
     // 5 6, 8 3, 4 7, 7 4, and so on: 4 7, 7 4
