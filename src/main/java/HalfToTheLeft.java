@@ -220,7 +220,7 @@ public final class HalfToTheLeft {
     if (now.children == 0) {
       return refuse(STATE);
     }
-    int divisor = now.commonDivisor();
+    int divisor = Math.max(now.commonDivisor(), 1);
     return (part == 0 ? now.allSweets() : now.children) / divisor;
   }
 
@@ -253,7 +253,7 @@ public final class HalfToTheLeft {
     if (refusal != 0) {
       return refuse(refusal);
     }
-    return past.find(now, k, i) > i ? past.told[child] : NONE;
+    return past.find(now, k, i) > i ? past.told.sweets[child] : NONE;
   }
 
   public int seats(int n, int what) {
@@ -529,6 +529,20 @@ public final class HalfToTheLeft {
         return 0;
       }
       return kinds[child] == BOTH ? 2 : 1;
+    }
+
+    /** What a child has when all have given, ahead of the mending and of what is lost. */
+    int heapBehindGifts(int child) {
+      int left = leftOf(child);
+      int gift = gift(child);
+      int heap = sweets[child] - gift + gift(rightOf(child));
+      if (kinds[child] == BOTH) {
+        heap -= gift;
+      }
+      if (kinds[left] == BOTH) {
+        heap += gift(left);
+      }
+      return heap;
     }
 
     /** A stroke: what the aunt gave. */
@@ -1029,8 +1043,8 @@ public final class HalfToTheLeft {
 
   /** What can have been a stroke before: all tables in the order of the first child's sweets. */
   static final class Past {
-    final int[] told = new int[MOST_BEFORE_CHILDREN];
-    private final Ring trial = new Ring();
+    final Ring told = new Ring();
+    private final Ring struck = new Ring();
 
     /**
      * Goes through the tables up to the last-th (from 0) that leads to now, which is told then:
@@ -1041,48 +1055,72 @@ public final class HalfToTheLeft {
       if (now.children > MOST_BEFORE_CHILDREN) {
         return found;
       }
+      told.copyFrom(now);
       int tables = 1;
-      for (int i = 0; i < now.children; i++) {
-        told[i] = 0;
+      for (int i = 0; i < told.children; i++) {
+        told.sweets[i] = 0;
         tables *= k + 1;
       }
-      trial.copyFrom(now);
-      int all = now.allSweets();
-      for (int t = 0; t < tables && found <= last; t++) {
-        if (t > 0) {
-          advance(now.children, k);
-        }
-        if (mayLeadTo(all, now.children) && leadsTo(now)) {
+      for (int t = 0; t < tables; t++) {
+        int place = placeOfWrong(now);
+        if (place == told.children && leadsTo(now)) {
           found++;
+          if (found > last) {
+            return found;
+          }
+        }
+        if (!advance(Math.min(place, told.children - 1), k)) {
+          return found;
         }
       }
       return found;
     }
 
-    private void advance(int children, int k) {
-      for (int i = children - 1; i >= 0; i--) {
-        if (told[i] < k) {
-          told[i]++;
-          return;
+    /**
+     * The least place so that no table with the same sweets up to there leads to now, or how many
+     * children there are: whole tables are not gone through where a few children show it.
+     */
+    private int placeOfWrong(Ring now) {
+      int place = told.children;
+      for (int i = 0; i < told.children; i++) {
+        if (!mayBecome(told.heapBehindGifts(i), now.sweets[i])) {
+          place = Math.min(place, lastOfThoseWhoMakeHeapOf(i));
         }
-        told[i] = 0;
       }
+      return place;
     }
 
-    /** So few sweets never reach 999: a stroke adds or takes one a child at most in all. */
-    private boolean mayLeadTo(int all, int children) {
-      int more = all;
-      for (int i = 0; i < children; i++) {
-        more -= told[i];
+    /** What a child has next hangs on its own, on its right one's, and on its left one's at times. */
+    private int lastOfThoseWhoMakeHeapOf(int child) {
+      int left = told.leftOf(child);
+      int last = Math.max(child, told.rightOf(child));
+      boolean looksLeft = told.kinds[child] == RICH || told.kinds[child] == PROUD;
+      return looksLeft || told.kinds[left] == BOTH ? Math.max(last, left) : last;
+    }
+
+    private static boolean mayBecome(int heap, int sweets) {
+      return heap == sweets || heap % 2 == 1 && Math.abs(sweets - heap) == 1;
+    }
+
+    /** The next table with other sweets up to a place, and none behind it; false: there is none. */
+    private boolean advance(int place, int k) {
+      for (int i = place + 1; i < told.children; i++) {
+        told.sweets[i] = 0;
       }
-      return more <= children && more >= -children;
+      for (int i = place; i >= 0; i--) {
+        if (told.sweets[i] < k) {
+          told.sweets[i]++;
+          return true;
+        }
+        told.sweets[i] = 0;
+      }
+      return false;
     }
 
     private boolean leadsTo(Ring now) {
-      System.arraycopy(told, 0, trial.sweets, 0, now.children);
-      trial.settings[BAG] = now.settings[BAG];
-      trial.strike();
-      return trial.hasSweetsOf(now);
+      struck.copyFrom(told);
+      struck.strike();
+      return struck.hasSweetsOf(now);
     }
   }
 

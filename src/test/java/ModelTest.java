@@ -292,7 +292,7 @@ public final class ModelTest {
       int a = someone();
       int b = someone();
       int n = about(0, random.nextBoolean() ? 5 : 50);
-      int k = about(0, model.children.size() > 3 ? 3 : 9);
+      int k = about(0, new int[] {9, 9, 9, 9, 5, 3, 9, 9, 9}[model.children.size()]);
       int what = about(0, 2);
       int i = about(0, 6);
       int z = random.nextInt();

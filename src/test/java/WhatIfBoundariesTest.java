@@ -92,6 +92,75 @@ public final class WhatIfBoundariesTest {
     Checks.due("before(9) of STEP 3", x.before(9), 7);
   }
 
+  /** BEFORE by hand: each table with 0 .. k SWEETS is told as one of its own, and struck. */
+  private static void addTablesBefore(HalfToTheLeft now, String settings, String kinds, int k,
+      int[] sweets, int child, List<int[]> found) {
+    if (child == sweets.length) {
+      if (leadsTo(now, settings, kinds, sweets)) {
+        found.add(sweets.clone());
+      }
+      return;
+    }
+    for (int v = 0; v <= k; v++) {
+      sweets[child] = v;
+      addTablesBefore(now, settings, kinds, k, sweets, child + 1, found);
+    }
+  }
+
+  private static boolean leadsTo(HalfToTheLeft now, String settings, String kinds, int[] sweets) {
+    StringBuilder letters = new StringBuilder(settings);
+    for (int i = 0; i < sweets.length; i++) {
+      letters.append("c").append(kinds.charAt(i)).append(sweets[i]).append(";");
+    }
+    HalfToTheLeft x = Checks.told(letters.toString());
+    x.stroke();
+    boolean same = true;
+    for (int i = 0; i < sweets.length; i++) {
+      same &= x.child(i, 1) == now.child(i, 1);
+    }
+    return same;
+  }
+
+  private static void beforeIsAsByHand(String settings, String kinds, int k, int... sweets) {
+    StringBuilder letters = new StringBuilder(settings);
+    for (int i = 0; i < sweets.length; i++) {
+      letters.append("c").append(kinds.charAt(i)).append(sweets[i]).append(";");
+    }
+    List<int[]> found = new ArrayList<>();
+    int[] trial = new int[sweets.length];
+    addTablesBefore(Checks.told(letters.toString()), settings, kinds, k, trial, 0, found);
+    HalfToTheLeft x = Checks.told(letters.toString());
+    Checks.due("before(" + k + ") of " + letters, x.before(k), found.size());
+    int asked = Math.min(found.size(), 60);
+    for (int i = 0; i < asked; i++) {
+      // the first ones and the last ones
+      int which = i < 30 ? i : found.size() - asked + i;
+      for (int child = 0; child < sweets.length; child++) {
+        Checks.due("beforeOf(" + child + ", " + k + ", " + which + ") of " + letters,
+            x.beforeOf(child, k, which), found.get(which)[child]);
+      }
+    }
+    Checks.due("behind all of " + letters, x.beforeOf(0, k, found.size()), -9);
+  }
+
+  @Checks.Says("that a stroke makes such that all have what they have now: how many")
+  static void oneToFiveChildrenHaveTablesBefore() {
+    beforeIsAsByHand("l01;", "h", 9, 4);
+    beforeIsAsByHand("l11;", "b", 9, 8);
+    beforeIsAsByHand("l01;", "bb", 9, 6, 8);
+    beforeIsAsByHand("l02;", "hp", 9, 6, 8);
+    beforeIsAsByHand("l03;g1;", "rp", 9, 5, 6);
+    beforeIsAsByHand("l11;", "hds", 9, 4, 4, 6);
+    beforeIsAsByHand("l22;", "pbr", 9, 4, 4, 5);
+    beforeIsAsByHand("l03;", "rrb", 9, 4, 6, 2);
+    beforeIsAsByHand("l01;g2;", "hhhh", 5, 3, 4, 4, 3);
+    beforeIsAsByHand("l12;", "bprs", 5, 4, 2, 4, 2);
+    beforeIsAsByHand("l03;", "prbh", 5, 4, 2, 4, 2);
+    beforeIsAsByHand("l01;", "hrbpd", 3, 2, 2, 2, 2, 4);
+    beforeIsAsByHand("l12;", "bphbr", 3, 2, 2, 0, 2, 2);
+    beforeIsAsByHand("l23;", "prbhs", 3, 2, 1, 2, 1, 2);
+  }
+
   @Checks.Says("Seat 0 is that of child 0, i from 0.")
   static void child0StaysOnSeat0() {
     // who has more sits nearer to child 0's right: of 160 come 31 of 32 parts in 5 strokes, of 128
