@@ -1090,7 +1090,7 @@ public final class HalfToTheLeft {
       return place;
     }
 
-    /** What a child has next hangs on its own, on its right one's, and on its left one's at times. */
+    /** What a child has next hangs on its own, its right one's, and at times its left one's. */
     private int lastOfThoseWhoMakeHeapOf(int child) {
       int left = told.leftOf(child);
       int last = Math.max(child, told.rightOf(child));

@@ -92,50 +92,58 @@ public final class WhatIfBoundariesTest {
     Checks.due("before(9) of STEP 3", x.before(9), 7);
   }
 
-  /** BEFORE by hand: each table with 0 .. k SWEETS is told as one of its own, and struck. */
-  private static void addTablesBefore(HalfToTheLeft now, String settings, String kinds, int k,
-      int[] sweets, int child, List<int[]> found) {
-    if (child == sweets.length) {
-      if (leadsTo(now, settings, kinds, sweets)) {
-        found.add(sweets.clone());
-      }
-      return;
-    }
-    for (int v = 0; v <= k; v++) {
-      sweets[child] = v;
-      addTablesBefore(now, settings, kinds, k, sweets, child + 1, found);
-    }
-  }
-
-  private static boolean leadsTo(HalfToTheLeft now, String settings, String kinds, int[] sweets) {
+  private static String lettersOf(String settings, String kinds, int[] sweets) {
     StringBuilder letters = new StringBuilder(settings);
     for (int i = 0; i < sweets.length; i++) {
       letters.append("c").append(kinds.charAt(i)).append(sweets[i]).append(";");
     }
-    HalfToTheLeft x = Checks.told(letters.toString());
+    return letters.toString();
+  }
+
+  /** All tables with 0 .. k SWEETS for each of so many children, in their order. */
+  private static List<int[]> tablesUpTo(int children, int k) {
+    List<int[]> tables = new ArrayList<>();
+    tables.add(new int[children]);
+    for (int child = 0; child < children; child++) {
+      List<int[]> more = new ArrayList<>();
+      for (int[] table : tables) {
+        for (int v = 0; v <= k; v++) {
+          int[] other = table.clone();
+          other[child] = v;
+          more.add(other);
+        }
+      }
+      tables = more;
+    }
+    return tables;
+  }
+
+  private static boolean leadsTo(int[] now, String letters) {
+    HalfToTheLeft x = Checks.told(letters);
     x.stroke();
     boolean same = true;
-    for (int i = 0; i < sweets.length; i++) {
-      same &= x.child(i, 1) == now.child(i, 1);
+    for (int i = 0; i < now.length; i++) {
+      same &= x.child(i, 1) == now[i];
     }
     return same;
   }
 
-  private static void beforeIsAsByHand(String settings, String kinds, int k, int... sweets) {
-    StringBuilder letters = new StringBuilder(settings);
-    for (int i = 0; i < sweets.length; i++) {
-      letters.append("c").append(kinds.charAt(i)).append(sweets[i]).append(";");
-    }
+  /** BEFORE by hand: each table is told as one of its own, and struck. */
+  private static void beforeIsAsByHand(String settings, String kinds, int k, int... now) {
     List<int[]> found = new ArrayList<>();
-    int[] trial = new int[sweets.length];
-    addTablesBefore(Checks.told(letters.toString()), settings, kinds, k, trial, 0, found);
-    HalfToTheLeft x = Checks.told(letters.toString());
+    for (int[] table : tablesUpTo(now.length, k)) {
+      if (leadsTo(now, lettersOf(settings, kinds, table))) {
+        found.add(table);
+      }
+    }
+    String letters = lettersOf(settings, kinds, now);
+    HalfToTheLeft x = Checks.told(letters);
     Checks.due("before(" + k + ") of " + letters, x.before(k), found.size());
+    // the first ones and the last ones
     int asked = Math.min(found.size(), 60);
     for (int i = 0; i < asked; i++) {
-      // the first ones and the last ones
       int which = i < 30 ? i : found.size() - asked + i;
-      for (int child = 0; child < sweets.length; child++) {
+      for (int child = 0; child < now.length; child++) {
         Checks.due("beforeOf(" + child + ", " + k + ", " + which + ") of " + letters,
             x.beforeOf(child, k, which), found.get(which)[child]);
       }
