@@ -1102,11 +1102,11 @@ public final class HalfToTheLeft {
       return heap == sweets || heap % 2 == 1 && Math.abs(sweets - heap) == 1;
     }
 
-    /** The next table with other sweets up to a place, and none behind it; false: there is none. */
+    /**
+     * The next table with other sweets up to a place; false: there is none. All behind the place
+     * have none: what is wrong up to there was so in the first table with these sweets.
+     */
     private boolean advance(int place, int k) {
-      for (int i = place + 1; i < told.children; i++) {
-        told.sweets[i] = 0;
-      }
       for (int i = place; i >= 0; i--) {
         if (told.sweets[i] < k) {
           told.sweets[i]++;

@@ -1,6 +1,7 @@
 import java.util.ArrayList;
 import java.util.Arrays;
 import java.util.List;
+import java.util.Random;
 
 /** The boundary cases of the Terms' part II from BEFORE to JUDGED, and of their Details. */
 public final class WhatIfBoundariesTest {
@@ -167,6 +168,35 @@ public final class WhatIfBoundariesTest {
     beforeIsAsByHand("l01;", "hrbpd", 3, 2, 2, 2, 2, 4);
     beforeIsAsByHand("l12;", "bphbr", 3, 2, 2, 0, 2, 2);
     beforeIsAsByHand("l23;", "prbhs", 3, 2, 1, 2, 1, 2);
+    // 4 stays where 5 are beside it, and 2 comes of 8
+    beforeIsAsByHand("l21;", "nrn", 9, 1, 4, 5);
+    beforeIsAsByHand("l21;", "npn", 9, 1, 4, 7);
+    beforeIsAsByHand("l21;", "nnb", 9, 2, 4, 4);
+  }
+
+  @Checks.Says("those (HAVING SWEETS as told there) that a stroke makes such that all have what they "
+      + "have now")
+  static void whatAStrokeMadeHasATableBefore() {
+    Random random = new Random(7);
+    int[] greatest = {0, 9, 9, 9, 5, 3};
+    for (int run = 0; run < 400; run++) {
+      int children = 1 + random.nextInt(5);
+      int k = greatest[children] - random.nextInt(2);
+      StringBuilder kinds = new StringBuilder();
+      int[] sweets = new int[children];
+      for (int i = 0; i < children; i++) {
+        kinds.append("hbrdnps".charAt(random.nextInt(7)));
+        sweets[i] = random.nextInt(k + 1);
+      }
+      String settings = "l" + random.nextInt(3) + (1 + random.nextInt(3)) + ";"
+          + (random.nextBoolean() ? "g" + random.nextInt(4) + ";" : "");
+      HalfToTheLeft x = Checks.told(lettersOf(settings, kinds.toString(), sweets));
+      x.stroke();
+      for (int i = 0; i < children; i++) {
+        sweets[i] = x.child(i, 1);
+      }
+      beforeIsAsByHand(settings, kinds.toString(), k, sweets);
+    }
   }
 
   @Checks.Says("Seat 0 is that of child 0, i from 0.")
