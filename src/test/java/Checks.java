@@ -16,7 +16,7 @@ import java.util.function.ToLongFunction;
 /** What the tests of boundary cases share: tables told, answers looked at, tests found and run. */
 final class Checks {
 
-  /** The document's words that a test is for, and the promise that says them (0: the Terms). */
+  /** The document's words that a test is for, and the promise that says them (0: it is ahead of them). */
   @Retention(RetentionPolicy.RUNTIME)
   @Target(ElementType.METHOD)
   @interface Says {
@@ -101,12 +101,12 @@ final class Checks {
     }
   }
 
-  /** The Terms, and behind them the promises by their numbers; with no more than single blanks. */
+  /** What is ahead of the promises, and these by their numbers; with no more than single blanks. */
   private static String[] sections(String document) {
-    String[] parts = document.split("## (Terms|Promise \\d+:|Not promised)");
+    String[] parts = document.split("## (Promise \\d+:|Not promised)");
     String[] sections = new String[PROMISES + 1];
     for (int i = 0; i < sections.length; i++) {
-      sections[i] = i + 1 < parts.length ? parts[i + 1].replaceAll("\\s+", " ") : "";
+      sections[i] = i < parts.length ? parts[i].replaceAll("\\s+", " ") : "";
     }
     return sections;
   }

@@ -900,6 +900,23 @@ public final class PromiseBoundariesTest {
     Checks.refusedFar(INT_BASE, -4, PromiseBoundariesTest::full, "newly", x -> x.newly(1000, -1));
   }
 
+  @Checks.Says("An object is used for at most 512 calls after it has been made")
+  static void theLastCallIsAsTheFirst() {
+    // 6 letters, a TABLE, 504 strokes with a sweet in vain each, and a count
+    HalfToTheLeft x = Checks.told("cn999;");
+    Checks.strikes(x, 504);
+    Checks.due("count(3)", x.count(3), 504);
+    x = Checks.told("cn999;");
+    Checks.strikes(x, 504);
+    Checks.due("run(0, 200)", x.run(0, 200), 999);
+    // 511 refused ones, and their count
+    x = Checks.nobody();
+    for (int i = 1; i <= 511; i++) {
+      x.newly(-1, -1);
+    }
+    Checks.due("count(14)", x.count(14), 511);
+  }
+
   @Checks.Says("CHILDREN 0 .. 7 as they come")
   static void allIsAskedOfEight() {
     Supplier<HalfToTheLeft> eight = some(8);

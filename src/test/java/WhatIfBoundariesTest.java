@@ -174,8 +174,8 @@ public final class WhatIfBoundariesTest {
     beforeIsAsByHand("l21;", "nnb", 9, 2, 4, 4);
   }
 
-  @Checks.Says("those (HAVING SWEETS as told there) that a stroke makes such that all have what they "
-      + "have now")
+  @Checks.Says("those (HAVING SWEETS as told there) that a stroke makes such that all have what "
+      + "they have now")
   static void whatAStrokeMadeHasATableBefore() {
     Random random = new Random(7);
     int[] greatest = {0, 9, 9, 9, 5, 3};
