@@ -16,7 +16,7 @@ import java.util.function.ToLongFunction;
 /** What the tests of boundary cases share: tables told, answers looked at, tests found and run. */
 final class Checks {
 
-  /** The document's words that a test is for, and the promise that says them (0: it is ahead of them). */
+  /** The words that a test is for, and the promise that says them (0: all ahead of these). */
   @Retention(RetentionPolicy.RUNTIME)
   @Target(ElementType.METHOD)
   @interface Says {
